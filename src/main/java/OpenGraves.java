@@ -72,7 +72,7 @@ public final class OpenGraves {
     private final Tokens tokens;
     private final Grammar grammar;
     private final Reckoner reckoner;
-    private final Calendar calendar;
+    private final Almanac almanac;
     private final Outlook outlook;
     private final Rows rows;
     private final Past past;
@@ -94,8 +94,8 @@ public final class OpenGraves {
         tokens = new Tokens(tape);
         grammar = new Grammar(tokens, draft.rules);
         reckoner = new Reckoner();
-        calendar = new Calendar(reckoner);
-        outlook = new Outlook(calendar, reckoner);
+        almanac = new Almanac(reckoner);
+        outlook = new Outlook(almanac, reckoner);
         rows = new Rows();
         past = new Past();
         now = new Yard();
@@ -365,7 +365,7 @@ public final class OpenGraves {
         past.keep(now);
         int takenInAll = 0;
         for (int m = 0; m < n; m++) {
-            takenInAll += calendar.pass(told.rules, now);
+            takenInAll += almanac.pass(told.rules, now);
         }
         return takenInAll;
     }
@@ -378,7 +378,7 @@ public final class OpenGraves {
         int died = 0;
         for (int m = 0; m < n; m++) {
             died += drawDeaths();
-            calendar.pass(told.rules, now);
+            almanac.pass(told.rules, now);
         }
         return died;
     }
@@ -1384,11 +1384,11 @@ public final class OpenGraves {
     }
 
     /** Months as they come. */
-    private static final class Calendar {
+    private static final class Almanac {
         private final Reckoner reckoner;
         private final int[] weight;
 
-        Calendar(Reckoner reckoner) {
+        Almanac(Reckoner reckoner) {
             this.reckoner = reckoner;
             weight = new int[MOST_PEOPLE];
         }
@@ -1484,7 +1484,7 @@ public final class OpenGraves {
     private static final class Outlook {
         /** Rising rows of four out of six graves are 126. */
         private static final int MOST_TRIES = 126;
-        private final Calendar calendar;
+        private final Almanac almanac;
         private final Reckoner reckoner;
         private final Yard trial;
         private final int[] seen;
@@ -1494,8 +1494,8 @@ public final class OpenGraves {
         private final int[] deaths;
         private final int[] fillings;
 
-        Outlook(Calendar calendar, Reckoner reckoner) {
-            this.calendar = calendar;
+        Outlook(Almanac almanac, Reckoner reckoner) {
+            this.almanac = almanac;
             this.reckoner = reckoner;
             trial = new Yard();
             seen = new int[3 * MOST_SEEN];
@@ -1512,8 +1512,9 @@ public final class OpenGraves {
 
         private int takenBehind(Script rules, int n) {
             int takenInAll = 0;
-            for (int m = 0; m < n; m++) {
-                takenInAll += calendar.pass(rules, trial);
+            // once no grave asks, none is filled any more
+            for (int m = 0; m < n && trial.countAsking() > 0; m++) {
+                takenInAll += almanac.pass(rules, trial);
             }
             return takenInAll;
         }
@@ -1522,7 +1523,7 @@ public final class OpenGraves {
             trial.become(now);
             int last = Math.min(LAST_AHEAD, LAST_MONTH - now.month);
             for (int m = 0; m < last && !trial.isFilled(grave); m++) {
-                calendar.pass(rules, trial);
+                almanac.pass(rules, trial);
             }
             return trial.isFilled(grave) ? trial.month - now.month : NONE;
         }
@@ -1619,7 +1620,7 @@ public final class OpenGraves {
                     trial.bury(p, trial.nextGrave(p), DIED);
                 }
             }
-            calendar.pass(rules, trial);
+            almanac.pass(rules, trial);
             return trial.isFilled(grave);
         }
 
@@ -1646,7 +1647,7 @@ public final class OpenGraves {
             trial.will[person] = will;
             boolean good = isAsSeen(0);
             for (int m = 1; m <= last && good; m++) {
-                calendar.pass(rules, trial);
+                almanac.pass(rules, trial);
                 good = isAsSeen(m);
             }
             return good;
@@ -1674,7 +1675,7 @@ public final class OpenGraves {
                     trial.become(now);
                     trial.will[person] = will;
                     for (int m = 0; m < last; m++) {
-                        calendar.pass(rules, trial);
+                        almanac.pass(rules, trial);
                         addFillings(MOST_GRAVES * m);
                     }
                 }
