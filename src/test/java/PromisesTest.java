@@ -332,6 +332,9 @@ public final class PromisesTest {
         check.parishFault("harm (((((((1)))))));", 4, 11);
         check.parishFault("harm ((((((1))))))+((((((1))))));", 0, NONE);
         check.parishFault("harm (((((min(1,max(1,1))))))));", 4, 19);
+        check.parishFault("harm min(min(min(min(min(min(1,1),1),1),1),1),1);", 0, NONE);
+        check.parishFault("harm max(1,max(1,max(1,max(1,max(1,max(1,1))))));", 0, NONE);
+        check.parishFault("harm max(1,max(1,max(1,max(1,max(1,max(1,min(1,1)))))));", 4, 44);
         check.parishFault("comes not not not not not not all;", 0, NONE);
         check.parishFault("comes not not not not not not not all;", 4, 30);
         check.parishFault("comes not not not not not not all and not all;", 0, NONE);
@@ -993,6 +996,15 @@ public final class PromisesTest {
         y.months(2);
         due("an act behind undone ones", y.undo(), true);
         due("month 5 again", y.has(2), 5);
+        OpenGraves long45 = Check.told(PLAIN);
+        for (int n = 0; n < 45; n++) {
+            long45.months(1);
+        }
+        for (int n = 44; n >= 25; n--) {
+            long45.undo();
+            due("month behind one more undone of 45", long45.has(2), n);
+        }
+        due("20 of 45 are undone", long45.undo(), false);
         // refused calls are no acts
         y.dig(7);
         y.talk(1, 11);
@@ -1051,6 +1063,7 @@ public final class PromisesTest {
         question(x, "most due 0", 1);
         question(x, "most due 2*10", 40);
         question(x, "most due 3", 0);
+        question(x, "least fits 3", 0);
         question(x, "most due due 0", 1);
         question(x, "total fits number", 3);
         question(x, "total fits fits number", 2);
