@@ -801,8 +801,13 @@ public final class PromisesTest {
         due("the grave that tells is the second", z.tells(0, 1), 1);
         OpenGraves none = Check.told("person p tall 4 age 1 will 0;");
         due("without graves", none.tells(0, 0), NONE);
-        advance(y, 999);
-        due("when no month comes", y.tells(1, 0), NONE);
+        OpenGraves last = Check.told(PLAIN);
+        advance(last, 998);
+        due("when one month comes", last.tells(1, 0), 1);
+        due("all are left by it", last.tells(1, 2), 10);
+        last.months(1);
+        due("when no month comes", last.tells(1, 0), NONE);
+        due("though there are wills", last.wills(1), 1023);
         OpenGraves late = Check.told("grave g long 5 deep 5 due 30;person p tall 5 age 1 will 0;heart month*0;");
         advance(late, 996);
         late.dig(0);
