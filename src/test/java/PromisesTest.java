@@ -505,12 +505,6 @@ public final class PromisesTest {
         due("how q went", y.kept(1, 3), 2);
     }
 
-    private static void advance(OpenGraves x, int month) {
-        while (x.has(2) < month) {
-            x.months(Math.min(100, month - x.has(2)));
-        }
-    }
-
     /** Promise 13. */
     private static void later() {
         OpenGraves x = Check.told(PLAIN);
@@ -526,7 +520,7 @@ public final class PromisesTest {
         due("nothing is kept by looking", x.has(6), 0);
         x.fill(0, 0);
         due("later(0, 0) of a filled one", x.later(0, 0), 0);
-        advance(x, 997);
+        Check.advance(x, 997);
         due("later(0, 2) in month 997", x.later(0, 2), 0);
         due("later(0, 3) in month 997", x.later(0, 3), NONE);
     }
@@ -545,15 +539,15 @@ public final class PromisesTest {
         due("a grave that does not ask", Check.told(shallow).filled(0), NONE);
         OpenGraves y = Check.told("grave g long 9 deep 6 due 30;person p tall 1 age 1 will 1;");
         due("filled behind 30", y.filled(0), 30);
-        advance(y, 29);
+        Check.advance(y, 29);
         due("filled behind 1", y.filled(0), 1);
         OpenGraves z = Check.told("grave g long 9 deep 5 due 30;person p tall 1 age 1 will 1;");
-        advance(z, 970);
+        Check.advance(z, 970);
         z.dig(0);
         due("filled behind 30 is beyond 999", z.filled(0), NONE);
         z.undo();
         z.undo();
-        advance(z, 969);
+        Check.advance(z, 969);
         z.dig(0);
         due("filled in the last month", z.filled(0), 30);
     }
@@ -571,7 +565,7 @@ public final class PromisesTest {
         due("taken(60)", x.taken(60), 2);
         due("taken(61)", x.taken(61), NONE);
         due("taken(-1)", x.taken(-1), NONE);
-        advance(x, 990);
+        Check.advance(x, 990);
         due("taken(9) in month 990", x.taken(9), 0);
         due("taken(10) in month 990", x.taken(10), NONE);
     }
@@ -669,7 +663,7 @@ public final class PromisesTest {
         due("one, in c", deep.enemy(1, 0), 2);
         due("two can't, as a is filled", deep.enemy(2, NONE), NONE);
         OpenGraves old = Check.told("grave a long 9 deep 5 due 1;person p tall 5 age 1 will 1;");
-        advance(old, 987);
+        Check.advance(old, 987);
         due("in month 987", old.enemy(1, NONE), 1);
         old.months(1);
         due("in month 988", old.enemy(1, NONE), NONE);
@@ -705,7 +699,7 @@ public final class PromisesTest {
         due("b is due", eight.odds(1), 10000000000000000L);
         // a is filled if two die at least: 10^16 - 99^8 - 8 * 99^7
         due("a by two deaths", eight.odds(0), 10000000000000000L - 9227446944279201L - 8 * 93206534790699L);
-        advance(x, 998);
+        Check.advance(x, 998);
         due("odds in month 998", x.odds(0), 100);
         x.months(1);
         due("odds in month 999", x.odds(0), NOTHING);
@@ -769,7 +763,7 @@ public final class PromisesTest {
         y.fill(0, 0);
         due("of one who is not alive", y.wills(0), NONE);
         due("filled now, by another", willsSeen(y, 1, 0, 0, 1), 1023);
-        advance(y, 998);
+        Check.advance(y, 998);
         due("a month ahead of 998", willsSeen(y, 1, 1, 0, 1), 1023);
         due("two months ahead of 998", willsSeen(y, 1, 2, 0, 1), 0);
         due("one of them beyond 999", willsSeen(y, 1, 0, 0, 1, 2, 0, 1), 0);
@@ -802,14 +796,14 @@ public final class PromisesTest {
         OpenGraves none = Check.told("person p tall 4 age 1 will 0;");
         due("without graves", none.tells(0, 0), NONE);
         OpenGraves last = Check.told(PLAIN);
-        advance(last, 998);
+        Check.advance(last, 998);
         due("when one month comes", last.tells(1, 0), 1);
         due("all are left by it", last.tells(1, 2), 10);
         last.months(1);
         due("when no month comes", last.tells(1, 0), NONE);
         due("though there are wills", last.wills(1), 1023);
         OpenGraves late = Check.told("grave g long 5 deep 5 due 30;person p tall 5 age 1 will 0;heart month*0;");
-        advance(late, 996);
+        Check.advance(late, 996);
         late.dig(0);
         due("in month 996 the first tells", late.tells(0, 0), 1);
         due("nine are left", late.tells(0, 2), 9);
@@ -889,7 +883,7 @@ public final class PromisesTest {
         due("acts", x.has(8), 3);
         due("month", x.has(2), 102);
         due("eight years older", x.person(2, 1), 48);
-        advance(x, 990);
+        Check.advance(x, 990);
         due("beyond 999", x.months(10), NONE);
         due("up to 999", x.months(9), 0);
         due("in month 999", x.months(1), NONE);
@@ -954,7 +948,7 @@ public final class PromisesTest {
         OpenGraves z = Check.told("person p tall 9 age 1 will 1;dies 0-5;");
         due("nobody dies below 0", z.chance(100), 0);
         due("one act", z.has(8), 1);
-        advance(z, 990);
+        Check.advance(z, 990);
         due("beyond 999", z.chance(10), NONE);
         due("up to 999", z.chance(9), 0);
         OpenGraves sure = Check.told("person p tall 9 age 1 will 1;person q tall 9 age 1 will 1;dies 200;");
@@ -1119,40 +1113,15 @@ public final class PromisesTest {
         check.questionFault(x, "first not not [not not not fits 1=1]", 4, 27);
     }
 
-    private static int[] imageOf(OpenGraves x) {
-        int[] all = new int[x.image()];
-        for (int k = 0; k < all.length; k++) {
-            all[k] = x.octet(k);
-        }
-        return all;
-    }
-
-    private static int[] sealed(int... octets) {
-        int[] all = java.util.Arrays.copyOf(octets, octets.length + 1);
-        int c = 241;
-        for (int octet : octets) {
-            c = (3 * c + octet) % 251;
-        }
-        all[octets.length] = c;
-        return all;
-    }
-
-    private static void same(String what, int[] got, int[] want) {
-        due(what + ": size", got.length, want.length);
-        for (int k = 0; k < got.length && k < want.length; k++) {
-            due(what + ": octet " + k, got[k], want[k]);
-        }
-    }
-
     /** Promise 31. */
     private static void image() {
-        same("empty", imageOf(new OpenGraves()), new int[] {0, 0, 161});
+        check.same("empty", Check.imageOf(new OpenGraves()), new int[] {0, 0, 161});
         OpenGraves x = Check.told(PLAIN);
-        same("plain", imageOf(x), sealed(0, 0, 6, 3, 255, 1, 50, 5, 1, 60, 6));
+        check.same("plain", Check.imageOf(x), Check.sealed(0, 0, 6, 3, 255, 1, 50, 5, 1, 60, 6));
         x.months(3);
-        same("behind three months", imageOf(x), sealed(0, 3, 6, 0, 0, 0, 50, 5, 1, 60, 6));
-        advance(x, 300);
-        same("in month 300", imageOf(x), sealed(1, 44, 6, 0, 0, 0, 50, 5, 1, 85, 6));
+        check.same("behind three months", Check.imageOf(x), Check.sealed(0, 3, 6, 0, 0, 0, 50, 5, 1, 60, 6));
+        Check.advance(x, 300);
+        check.same("in month 300", Check.imageOf(x), Check.sealed(1, 44, 6, 0, 0, 0, 50, 5, 1, 85, 6));
     }
 
     /** Promise 32. */
@@ -1185,7 +1154,7 @@ public final class PromisesTest {
     /** Promise 33. */
     private static void on() {
         OpenGraves x = Check.told(TWO);
-        int[] first = imageOf(x);
+        int[] first = Check.imageOf(x);
         Check.put(x, 0, 0, 0);
         x.see();
         x.months(5);
@@ -1196,27 +1165,27 @@ public final class PromisesTest {
         due("nothing kept", x.has(6), 0);
         due("what is seen stays", x.has(7), 1);
         due("nothing to undo", x.has(8), 0);
-        due("as far as it goes", goesOn(x, sealed(3, 231, 9, 30, 0, 9, 30, 255, 0, 99, 9, 1, 99, 9)), true);
-        same("all is as told", imageOf(x), sealed(3, 231, 9, 30, 0, 9, 30, 255, 0, 99, 9, 1, 99, 9));
+        due("as far as it goes", goesOn(x, Check.sealed(3, 231, 9, 30, 0, 9, 30, 255, 0, 99, 9, 1, 99, 9)), true);
+        check.same("all is as told", Check.imageOf(x), Check.sealed(3, 231, 9, 30, 0, 9, 30, 255, 0, 99, 9, 1, 99, 9));
         due("the grave is filled by p", x.grave(0, 3), 0);
         due("month 999", x.months(1), NONE);
         x.seed(5);
         long refusals = x.status(5);
         int[][] wrong = {
-            sealed(3, 232, 9, 30, 0, 9, 30, 255, 0, 99, 9, 1, 99, 9),
-            sealed(0, 0, 10, 30, 0, 9, 30, 255, 0, 99, 9, 1, 99, 9),
-            sealed(0, 0, 9, 31, 0, 9, 30, 255, 0, 99, 9, 1, 99, 9),
-            sealed(0, 0, 9, 30, 0, 9, 30, 255, 0, 100, 9, 1, 99, 9),
-            sealed(0, 0, 9, 30, 0, 9, 30, 255, 0, 99, 10, 1, 99, 9),
-            sealed(0, 0, 9, 30, 0, 9, 30, 255, 0, 99, 9, 2, 99, 9),
-            sealed(0, 0, 9, 30, 0, 9, 30, 255, 1, 99, 9, 1, 99, 9),
-            sealed(0, 0, 9, 30, 1, 9, 30, 255, 0, 99, 9, 0, 99, 9),
-            sealed(0, 0, 9, 30, 0, 9, 30, 0, 0, 99, 9, 1, 99, 9),
-            sealed(0, 0, 9, 30, 2, 9, 30, 255, 0, 99, 9, 1, 99, 9),
-            sealed(0, 0, 9, 30, 254, 9, 30, 255, 0, 99, 9, 1, 99, 9),
-            sealed(0, 0, 9, 30, 0, 9, 30, 255, 0, 99, 9, 1, 99),
-            sealed(0, 0, 9, 30, 0, 9, 30, 255, 0, 99, 9, 1, 99, 9, 0),
-            sealed(),
+            Check.sealed(3, 232, 9, 30, 0, 9, 30, 255, 0, 99, 9, 1, 99, 9),
+            Check.sealed(0, 0, 10, 30, 0, 9, 30, 255, 0, 99, 9, 1, 99, 9),
+            Check.sealed(0, 0, 9, 31, 0, 9, 30, 255, 0, 99, 9, 1, 99, 9),
+            Check.sealed(0, 0, 9, 30, 0, 9, 30, 255, 0, 100, 9, 1, 99, 9),
+            Check.sealed(0, 0, 9, 30, 0, 9, 30, 255, 0, 99, 10, 1, 99, 9),
+            Check.sealed(0, 0, 9, 30, 0, 9, 30, 255, 0, 99, 9, 2, 99, 9),
+            Check.sealed(0, 0, 9, 30, 0, 9, 30, 255, 1, 99, 9, 1, 99, 9),
+            Check.sealed(0, 0, 9, 30, 1, 9, 30, 255, 0, 99, 9, 0, 99, 9),
+            Check.sealed(0, 0, 9, 30, 0, 9, 30, 0, 0, 99, 9, 1, 99, 9),
+            Check.sealed(0, 0, 9, 30, 2, 9, 30, 255, 0, 99, 9, 1, 99, 9),
+            Check.sealed(0, 0, 9, 30, 254, 9, 30, 255, 0, 99, 9, 1, 99, 9),
+            Check.sealed(0, 0, 9, 30, 0, 9, 30, 255, 0, 99, 9, 1, 99),
+            Check.sealed(0, 0, 9, 30, 0, 9, 30, 255, 0, 99, 9, 1, 99, 9, 0),
+            Check.sealed(),
             {},
         };
         for (int k = 0; k < wrong.length; k++) {
@@ -1227,7 +1196,7 @@ public final class PromisesTest {
         bad[bad.length - 1] ^= 1;
         due("the last byte", goesOn(x, bad), false);
         due("status(5)", x.status(5), refusals + wrong.length + 1);
-        due("one dead in no grave, one in h", goesOn(x, sealed(0, 7, 0, 0, 255, 0, 0, 1, 0, 0, 0, 0, 0, 0)), true);
+        due("one dead in no grave, one in h", goesOn(x, Check.sealed(0, 7, 0, 0, 255, 0, 0, 1, 0, 0, 0, 0, 0, 0)), true);
         due("nobody is alive", x.has(3), 0);
         due("month 7", x.has(2), 7);
     }
