@@ -136,6 +136,23 @@ public final class BoundaryAheadTest {
                 + "person d tall 5 age 1 will 1;person e tall 5 age 1 will 1;";
         rowIs(check.good(SIX + five, 11), 5, 40, NONE, 0, 1, 2, 3, 4);
         rowIs(check.good("grave g long 9 deep 6 due 9;" + five, 6), 1, 8, 0);
+        // what was the best ahead of a talk, or of another parish, is not any more
+        OpenGraves x = check.good("grave g long 9 deep 6 due 9;person p tall 1 age 1 will 8;person q tall 1 age 1 will 4;", 3);
+        rowIs(x, 1, 1, 0);
+        x.talk(0, 0);
+        rowIs(x, 1, 5, 1);
+        Check.put(x, SIX + EIGHT);
+        x.parish();
+        rowIs(x, 6, 21, 2, 3, 4, 5, 6, 7);
+        Check.put(x, SIX + EIGHT + "harm age;");
+        x.parish();
+        rowIs(x, 6, 210, 0, 1, 2, 3, 4, 5);
+        Check.put(x, SIX.substring(0, 2 * (SIX.length() / 6)) + five);
+        x.parish();
+        rowIs(x, 2, 16, 0, 1, NONE);
+        Check.put(x, SIX.substring(0, SIX.length() / 6) + ONE);
+        x.parish();
+        rowIs(x, 1, 4, 0, NONE);
         // the six of least harm are c to t; the first row has them by their numbers
         rowIs(check.good(SIX + EIGHT, 14), 6, 6 + 5 + 4 + 3 + 2 + 1, 2, 3, 4, 5, 6, 7);
     }
@@ -176,6 +193,11 @@ public final class BoundaryAheadTest {
         due("0 feet", x.enemy(0, NONE), NONE);
         due("5 feet", x.enemy(5, NONE), NONE);
         due("nothing is dug by asking", x.grave(0, 1), 5);
+        OpenGraves wide = check.good(SIX + ONE, 7);
+        due("5 feet, though they could be dug", wide.enemy(5, NONE), NONE);
+        due("their first", wide.enemy(5, 0), NONE);
+        due("0 feet, though they could be dug", wide.enemy(0, NONE), NONE);
+        due("4 feet can be", wide.enemy(4, NONE), 1);
         OpenGraves deep = check.good("grave g long 5 deep 6 due 9;" + ONE, 2);
         due("to 9 feet", deep.enemy(3, NONE), 1);
         due("to 10 feet", deep.enemy(4, NONE), NONE);
@@ -508,9 +530,12 @@ public final class BoundaryAheadTest {
         due("one byte", Check.sees(x, 0), NONE);
         due("two bytes", Check.sees(x, 0, 0), NONE);
         due("four bytes", Check.sees(x, 0, 0, 0, 0), NONE);
-        due("a wrong row behind a good one", Check.sees(x, 0, 0, 0, 0, 0, 2), NONE);
-        due("a wrong row ahead of a good one", Check.sees(x, 31, 0, 0, 0, 0, 0), NONE);
-        due("refused", x.status(1), 8);
+        for (int place = 0; place < 9; place++) {
+            int[] wrong = {0, 0, 0, 0, 0, 0, 0, 0, 0};
+            wrong[place] = place % 3 == 0 ? 31 : place % 3 == 1 ? 1 : 2;
+            due("a wrong byte at " + place + " of three rows", Check.sees(x, wrong), NONE);
+        }
+        due("refused", x.status(1), 15);
         due("the one row stays", x.has(7), 1);
         due("as it was", x.wills(0), 512);
         due("16 rows", Check.sees(x, java.util.Arrays.copyOf(rows, 48)), 16);

@@ -320,8 +320,10 @@ public final class BoundaryQuestionsTest {
         }
         // 8 bytes ahead, then 796 times one more
         OpenGraves x = check.good(ONE, 1);
-        asks(x, text.toString(), 808);
-        asks(x, "total 1" + " ".repeat(1593), 1);
+        for (int turn = 0; turn < 4; turn++) {
+            asks(x, text.toString(), 808);
+        }
+        asks(check.good(ONE, 1), "total 1" + " ".repeat(1593), 1);
         bad(1, "total 1" + " ".repeat(1592) + "+^");
         bad(1, "total 1" + " ".repeat(1592) + "^;");
     }

@@ -18,6 +18,7 @@ public final class BoundaryTextTest {
         people();
         rulesOneEach();
         partsOfSums();
+        comparisons();
         fromTheLeft();
         division();
         million();
@@ -37,6 +38,7 @@ public final class BoundaryTextTest {
         parishCounts();
         parishRefused();
         parishAsAtFirst();
+        parishBehindOthers();
         parishOfSixteenHundred();
         fault();
         has();
@@ -180,6 +182,26 @@ public final class BoundaryTextTest {
         came.months(1);
         due("p came", came.kept(0, 3), 0);
         due("nobody was taken, though p came", came.person(1, 2), 0);
+    }
+
+    private static void comparisons() {
+        check.sentence("SUM SIGN SUM, SIGN < or > or = .");
+        holds("1<2", true);
+        holds("2<2", false);
+        holds("3<2", false);
+        holds("2>1", true);
+        holds("2>2", false);
+        holds("2>3", false);
+        holds("2=2", true);
+        holds("2=3", false);
+        holds("not 1<2", false);
+        holds("not 2<2", true);
+        holds("not 2>1", false);
+        holds("not 2>2", true);
+        holds("not 2=2", false);
+        holds("not 2=3", true);
+        holds("9999*9999=9999*9998", true);
+        holds("0-9999*9999<0-9999*99", true);
     }
 
     private static void fromTheLeft() {
@@ -406,6 +428,16 @@ public final class BoundaryTextTest {
         check.bad(3, GRAVE + PERSON + "person ^g");
         check.bad(3, "grave abcdef long 1 deep 1 due 1;" + PERSON + "person ^abcdef");
         check.bad(3, "person a tall 1 age 1 will 1;person b tall 1 age 1 will 1;person ^a tall 1 age 1 will 1;");
+        StringBuilder almost = new StringBuilder();
+        for (int k = 0; k < 12; k++) {
+            almost.append(k < 5 ? "grave " : "person ").append((char) ('a' + k));
+            almost.append(k < 5 ? " long 1 deep 1 due 1;" : " tall 1 age 1 will 1;");
+        }
+        check.good(almost + "grave m long 1 deep 1 due 1;person n tall 1 age 1 will 1;", 14);
+        for (int k = 0; k < 12; k++) {
+            check.bad(3, almost + "grave ^" + (char) ('a' + k) + " long 1 deep 1 due 1;");
+            check.bad(3, almost + "person ^" + (char) ('a' + k) + " tall 1 age 1 will 1;");
+        }
     }
 
     private static void faultFour() {
@@ -624,6 +656,40 @@ public final class BoundaryTextTest {
         due("0, by the seed that stayed, is below 1", x.chance(1), 1);
     }
 
+    /** A parish owes nothing to those that were told or refused ahead of it. */
+    private static void parishBehindOthers() {
+        check.sentence("Without one all is as at first,");
+        String full = GRAVE + "grave h long 6 deep 7 due 4;" + PERSON + "person q tall 6 age 60 will 6;"
+                + "dies 1;comes all;takes 2;heart 3;harm 4;";
+        String[] wrong = {"grave g long 1 deep 1 due 1;person p tall 1 age 1 will 1;dies 9;comes not all;takes 9;heart 9;harm 9;x",
+            full + "grave g", "person g tall 1 age 1 will 1;grave p long 1 deep 1 due 1;harm 1;harm 2;"};
+        OpenGraves x = new OpenGraves();
+        for (int turn = 0; turn < 3; turn++) {
+            Check.put(x, wrong[turn]);
+            due("parish() of <" + wrong[turn] + ">", x.parish(), NONE);
+            Check.put(x, full);
+            due("the full one, " + turn, x.parish(), 9);
+            due("graves", x.has(0), 2);
+            due("people", x.has(1), 2);
+            due("dies", x.counts(0, 0), 1);
+            Check.put(x, PERSON + GRAVE);
+            due("one of each, " + turn, x.parish(), 2);
+            due("graves", x.has(0), 1);
+            due("people", x.has(1), 1);
+            due("its name", x.letter(0, 0, 0), 7);
+            due("usual dies", x.counts(0, 0), 5);
+            due("usual takes", x.counts(0, 1), 50);
+            due("usual harm", x.counts(0, 2), 4);
+            due("usual comes", x.persuade(0), 9);
+            x.months(1);
+            due("usual heart", x.person(0, 2), 5);
+        }
+        Check.put(x, "");
+        due("the empty one", x.parish(), 0);
+        due("graves", x.has(0), 0);
+        due("people", x.has(1), 0);
+    }
+
     private static void parishOfSixteenHundred() {
         check.sentence("if there would be more than 1600.");
         StringBuilder ones = new StringBuilder("takes 1");
@@ -633,6 +699,8 @@ public final class BoundaryTextTest {
         ones.append(';');
         due("bytes", ones.length(), 1600);
         OpenGraves x = check.good(ones.toString(), 1);
+        Check.put(x, ones.toString());
+        due("again", x.parish(), 1);
         Check.put(x, PERSON + ones.substring(0, 1600 - PERSON.length() - 1) + ";");
         due("a person and a sum up to the last byte", x.parish(), 2);
         // 1600 bytes less 30 of the person, 6 ahead of the sum, 1 behind it: 1563, which are 782 ones, 781 signs
@@ -706,5 +774,17 @@ public final class BoundaryTextTest {
         due("letter(0, 1, 0)", x.letter(0, 1, 0), NONE);
         due("letter(1, 1, 0)", x.letter(1, 1, 0), NONE);
         due("letter(2, 0, 0)", x.letter(2, 0, 0), NONE);
+        StringBuilder full = new StringBuilder();
+        for (int k = 0; k < 14; k++) {
+            full.append(k < 6 ? "grave " : "person ").append((char) ('a' + k)).append("z");
+            full.append(k < 6 ? " long 1 deep 1 due 1;" : " tall 1 age 1 will 1;");
+        }
+        OpenGraves y = check.good(full.toString(), 14);
+        for (int k = 0; k < 14; k++) {
+            due("first letter of " + k, y.letter(k < 6 ? 0 : 1, k < 6 ? k : k - 6, 0), k + 1);
+            due("second letter of " + k, y.letter(k < 6 ? 0 : 1, k < 6 ? k : k - 6, 1), 26);
+        }
+        due("there is no seventh grave", y.letter(0, 6, 0), NONE);
+        due("there is no ninth person", y.letter(1, 8, 0), NONE);
     }
 }
