@@ -33,6 +33,7 @@ public final class BoundaryAheadTest {
         seenRows();
         willsOfOne();
         telling();
+        full();
         later();
         filled();
         taken();
@@ -374,6 +375,35 @@ public final class BoundaryAheadTest {
         // of h alone: g never asks
         OpenGraves second = check.good("grave g long 5 deep 1 due 30;grave h long 5 deep 6 due 30;" + ONE, 3);
         tellsOf(second, 0, 1, 1, 9);
+    }
+
+    /** As many graves and people as there can be: the last of each counts as the first does. */
+    private static void full() {
+        check.sentence("a GRAVE, 1 if it is FILLED behind these, else 0");
+        // nobody comes; in month 8 each of the six takes the oldest who is left: t, s, f, e, d, c
+        OpenGraves x = check.good(SIX + EIGHT, 14);
+        due("behind 8 months", x.later(5, 8), NONE);
+        due("behind 9 months", x.later(5, 9), 2);
+        due("filled", x.filled(5), 9);
+        due("taken", x.taken(9), 6);
+        // with will 9 one comes into the first grave in the first month
+        tellsOf(x, 0, 1, 0, 9);
+        tellsOf(x, 7, 1, 0, 9);
+        due("not filled behind 8", willsBy(x, 7, 8, 5, 0), 1023);
+        due("filled behind 8", willsBy(x, 7, 8, 5, 1), 0);
+        due("filled behind 9", willsBy(x, 7, 9, 5, 1), 1023);
+        tellsOf(x, 7, 1, 0, 9);
+        due("the last in the last", x.fill(5, 7), true);
+        due("now", x.filled(5), 0);
+        due("behind 60 months", x.later(5, 60), 7);
+        due("taken", x.taken(60), 5);
+        tellsOf(x, 6, 1, 0, 9);
+        // only the fifth is left: a comes into it, or not
+        for (int g = 0; g < 5; g++) {
+            x.fill(g, 6 - g);
+        }
+        x.undo();
+        tellsOf(x, 0, 1, 4, 9);
     }
 
     // ---- promises 13 to 22

@@ -182,6 +182,14 @@ public final class BoundaryTextTest {
         came.months(1);
         due("p came", came.kept(0, 3), 0);
         due("nobody was taken, though p came", came.person(1, 2), 0);
+        // a number 0 is 0, whatever asks or was taken
+        OpenGraves zero = check.good("grave g long 5 deep 6 due 1;heart 0;comes will=0 and asked=1;person p tall 5 age 1 will 0;"
+                + "person q tall 5 age 1 will 1;", 5);
+        due("by will 0, as one asks", zero.persuade(0), 0);
+        due("by no will above 0", zero.persuade(1), NONE);
+        zero.talk(0, 5);
+        due("one is taken", zero.months(1), 1);
+        due("a heart of 0, though one was taken", zero.person(1, 2), 0);
     }
 
     private static void comparisons() {
@@ -324,6 +332,10 @@ public final class BoundaryTextTest {
         check.bad(1, "comes 1=2^or all;");
         check.bad(1, "comes all or^1=2;");
         check.bad(1, "^gravel long 5 deep 6 due 3;");
+        // the numbers of + and ; are none of these signs
+        check.bad(1, "harm age^43 1;");
+        check.bad(1, "harm age^59");
+        check.bad(1, "harm age ^59");
         check.bad(1, "grave glong ^5 deep 6 due 3;");
     }
 
